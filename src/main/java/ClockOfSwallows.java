@@ -34,6 +34,7 @@ public final class ClockOfSwallows {
     private static final int MOST_WRONG = 6;
     /** Above whatever is counted or measured here. */
     private static final int MANY = 1000000;
+    private static final int YEAR = 20;
     private static final int WITHOUT_SIGN = 0x7fffffff;
 
     private static final int BIRD = 0;
@@ -537,15 +538,17 @@ public final class ClockOfSwallows {
         Flock m = think();
         int seed = z;
         int all = 0;
-        int never = 0;
-        for (int i = 0; i < 20 * n; i++) {
+        int rightOnes = 0;
+        for (int i = 0; i < YEAR * n; i++) {
             seed = seed * 1103515245 + 12345;
             m.undergo(((seed & WITHOUT_SIGN) / 65536) % THINGS);
             m.pass(NO_FLIES);
             all += m.errs();
-            never += m.errs() == 0 ? 1 : 0;
+            if (m.errs() == 0) {
+                rightOnes++;
+            }
         }
-        return what == 0 ? all : never;
+        return what == 0 ? all : rightOnes;
     }
 
     // ---- II: in mind, one HOUR with FLIES ----

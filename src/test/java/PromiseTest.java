@@ -438,6 +438,11 @@ public final class PromiseTest {
         // 1 is SHOWN on 0, 1, 2, then 2 on 3 alone
         x = clock("b001;w101;w201;w001;w302;");
         due(7, x.feeding(2, -1), "up and up");
+        // 1 and then 2 are SHOWN by none and then WIRE 1, or by WIRE 0 twice: two FLIES either way
+        x = clock("b001;b004;w301;w400;");
+        due(2, x.feeding(2, -1), "two FLIES");
+        due(0, x.feeding(2, 0), "none goes ahead of WIRE 0");
+        due(2, x.feeding(2, 1), "then WIRE 1");
     }
 
     private static void p19() {
