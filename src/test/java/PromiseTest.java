@@ -400,6 +400,8 @@ public final class PromiseTest {
         // the YOUNG goes to 1 at HOUR 0 and stays there until HOUR 3
         due(1, clock("b102;w200;w100;").firstWrong(), "0 at HOUR 0, 0 at 1");
         due(2, clock("b102;w200;w101;").firstWrong(), "0 at HOUR 0, 1 at 1, 1 at 2");
+        String long16 = "n4;s;b305;b125;b115;b204;b205;w008;w107;w206;w305;w404;w503;";
+        due(16, clock(long16).firstWrong(), "YOUNG ones by turns");
     }
 
     private static void p17() {
@@ -498,6 +500,11 @@ public final class PromiseTest {
         x = clock("b102;w204;w304;w404;w004;w101;");
         due(2, x.tellsMost(1), "4 or 1");
         due(1, x.tellsMost(0), "behind an HOUR");
+        // 10 by nothing, 7 by a HAWK, 1 by RAIN, 11 by a CAT, 9 by one on 4
+        x = clock("b000;b001;b002;b003;b004;");
+        due(5, x.tellsMost(1), "nothing is a thing, too");
+        x = clock("n8;s;b402;b000;b100;b012;b003;b123;w007;w106;w208;w303;w404;w500;");
+        due(8, x.tellsMost(0), "the last");
     }
 
     private static void p23() {
@@ -517,6 +524,7 @@ public final class PromiseTest {
         due(-9, x.near(4), "4 is too far");
         due(-4, x.near(-1), "-1");
         due(-6, x.near(12), "12");
+        due(1, clock("b000;w111;").near(11), "11");
         x = clock("b000;b000;b000;b000;");
         due(3, x.near(3), "3");
         x = clock("b000;w003;w103;w205;");
@@ -530,6 +538,7 @@ public final class PromiseTest {
         ClockOfSwallows x = clock("b000;");
         due(1, x.read(0), "one way");
         due(31, x.read(1), "0 .. 4");
+        due(62, clock("b000;w005;").read(1), "1 .. 5");
         due(-2, x.read(2), "what");
         x = clock("b000;b002;");
         due(2, x.read(0), "0 and 2, or both on 1");
