@@ -1,53 +1,5 @@
 /** What each promise of the document asks, by small clocks whose answers are told by hand. */
-public final class PromiseTest {
-    private static int wrong = 0;
-    private static int asked = 0;
-    private static String promise = "";
-
-    private static void due(int want, int got, String call) {
-        asked++;
-        if (got != want) {
-            wrong++;
-            System.out.println(promise + ": " + call + " answered " + got + ", due is " + want);
-        }
-    }
-
-    private static int tell(ClockOfSwallows x, String letters) {
-        for (int i = 0; i < letters.length(); i++) {
-            x.feed(letters.charAt(i));
-        }
-        return x.town();
-    }
-
-    private static ClockOfSwallows clock(String town) {
-        ClockOfSwallows x = new ClockOfSwallows();
-        if (!town.isEmpty()) {
-            int got = tell(x, town);
-            due((int) town.chars().filter(c -> c == ';').count(), got, "town " + town);
-        }
-        return x;
-    }
-
-    private static void row(ClockOfSwallows x, int... numbers) {
-        x.clear();
-        for (int v : numbers) {
-            x.row(v);
-        }
-    }
-
-    private static void seats(ClockOfSwallows x, String told, int... places) {
-        for (int b = 0; b < places.length; b++) {
-            due(places[b], x.bird(b, 2), told + ": the WIRE of " + b);
-        }
-    }
-
-    private static void later999(ClockOfSwallows x) {
-        for (int i = 0; i < 111; i++) {
-            due(1, tell(x, "n9;"), "town n9;");
-        }
-        due(999, x.count(2), "HOUR");
-    }
-
+public final class PromiseTest extends Asked {
     private static void p1() {
         ClockOfSwallows x = new ClockOfSwallows();
         int[] first = {0, 5, 0, 0, 0, 0, 0, 0, -9, -9, -9, 0, 0, 0, 0, 0, 0, -9};
@@ -135,7 +87,7 @@ public final class PromiseTest {
         due(1, x.count(7), "a FAULT leaves what can be taken back");
         due(1, tell(x, "n0;"), "n0");
         due(0, x.count(7), "no FAULT: none");
-        later999(x);
+        x = clock(hours(999));
         due(-2000, tell(x, "f0;"), "HOUR above 999");
         due(-2002, tell(x, "h;n1;"), "HOUR above 999");
         due(1, tell(x, "n0;"), "n0 at 999");
@@ -290,8 +242,7 @@ public final class PromiseTest {
         due(4, x.feeds(5), "the sixth");
         due(5, x.feeds(5), "the sixth");
         due(2, x.count(2), "HOUR");
-        x = new ClockOfSwallows();
-        later999(x);
+        x = clock(hours(999));
         due(-6, x.feeds(-1), "HOUR 999");
         due(-6, x.feeds(4), "HOUR 999");
         due(-1, x.feeds(5), "-1 first");
@@ -378,8 +329,7 @@ public final class PromiseTest {
         due(-2, x.behind(0, 2), "what");
         due(-2, x.behind(0, -1), "what");
         due(0, x.count(2), "in mind");
-        x = new ClockOfSwallows();
-        later999(x);
+        x = clock(hours(999));
         due(1, x.behind(20, 1), "HOUR 1019 in mind");
     }
 
@@ -979,15 +929,6 @@ public final class PromiseTest {
         }
     }
 
-    private interface Promise {
-        void ask();
-    }
-
-    private static void ask(String name, Promise p) {
-        promise = "promise " + name;
-        p.ask();
-    }
-
     private static void askFirst() {
         ask("1", PromiseTest::p1);
         ask("2", PromiseTest::p2);
@@ -1047,9 +988,6 @@ public final class PromiseTest {
     public static void main(String[] args) {
         askFirst();
         askLast();
-        System.out.println(asked + " answers asked, " + wrong + " are not as due");
-        if (wrong != 0) {
-            System.exit(1);
-        }
+        end();
     }
 }
