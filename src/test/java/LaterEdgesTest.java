@@ -28,7 +28,9 @@ public final class LaterEdgesTest extends Asked {
         due(3, empty().round(), "no BIRDS");
         due(3, clock(FOUR_ON_0 + "b101;").round(), "who has no ROOM stays");
         due(-9, clock(FOUR_ON_0 + "b102;").round(), "who goes to a lower WIRE never comes back");
-        due(-9, clock("b104;").round(), "down to 0");
+        due(-9, clock("b104;").round(), "it goes in the first HOUR");
+        due(-9, clock("b124;").round(), "it goes in the second HOUR");
+        due(-9, clock("b114;").round(), "it goes in the third HOUR");
         due(-9, clock("b101;b000;").round(), "one has gone, and all others are as now");
         due(-9, clock("b000;b101;").round(), "one has gone, and all others are as now");
         due(3, clock("b100;b110;b120;").round(), "0 at least");

@@ -119,6 +119,9 @@ public final class MindEdgesTest extends Asked {
         due(5, x.closest(0), "HOUR 1000 is 4");
         due(0, x.closest(1), "HOUR 1000 is 4");
         due(1, clock("b001;" + hours(11)).closest(0), "WIRE 0 is better than none");
+        x = clock("b203;n3;");
+        due(0, x.closest(0), "FLIES two away, on 5, there are none");
+        due(1, x.closest(1), "3 at HOUR 4");
     }
 
     private static void p20() {
@@ -180,6 +183,7 @@ public final class MindEdgesTest extends Asked {
         x = clock("b004;");
         due(0, x.tellsMost(0), "of several the least");
         due(3, x.tellsMost(1), "4, by RAIN 0, by a CAT 3");
+        due(2, clock("s;b005;").tellsMost(1), "5, by RAIN 0: a CAT on the sixth is none of the things");
         x = clock(FULL);
         due(3, x.tellsMost(1), "28 is 4, by the CATS on 3 and 4 24 is 0 and 20 is 8");
         due(0, x.count(2), "in mind");
@@ -253,6 +257,7 @@ public final class MindEdgesTest extends Asked {
         due(-9, clock("b001;").bestWeight(1), "none is less than now");
         due(-9, clock(hours(11)).bestWeight(20), "no BIRDS");
         due(11, clock("b000;" + hours(10)).bestWeight(1), "WIRE 0, WEIGHT 11");
+        due(0, clock("b000;w005;" + hours(11)).bestWeight(1), "WIRE 0, WEIGHT 0");
         due(100, clock("b001;" + hours(11)).bestWeight(1), "WIRE 1, WEIGHT 0");
         due(400, clock("b004;" + hours(11)).bestWeight(1), "WIRE 4, WEIGHT 0");
         due(500, clock("s;b005;" + hours(11)).bestWeight(1), "the sixth, WEIGHT 0");
@@ -321,6 +326,9 @@ public final class MindEdgesTest extends Asked {
         way(i -> one.plays(i), "to the sixth and back", 1, 6, 1, 1, 5);
         row(one, 32, 16, 4);
         way(i -> one.plays(i), "too far at last", 0);
+        row(six, 63, 64);
+        row(six, 63);
+        way(i -> six.plays(i), "64 was in a ROW that is no more", 1, 0);
         ClockOfSwallows late = clock(LATE + "b104;");
         row(late, 8, 8);
         way(i -> late.plays(i), "at HOUR 999 it goes by itself", 1, 0, 0);
@@ -380,8 +388,15 @@ public final class MindEdgesTest extends Asked {
         row(x, 7);
         due(-3, x.whoMoved(2), "7");
         x = clock("s;b004;n4;");
+        row(x, 0, 1, 2, 3);
+        asks(x, 8, 32, 6, "the sixth, then it stays by none or the sixth");
         row(x, 0);
         asks(x, 1, 32, 6, "the sixth");
+        x = clock("b000;");
+        row(x, 0, 0);
+        asks(x, 12, 30, 5, "up by 1 .. 4, up by 2 .. 4");
+        row(x, 1);
+        asks(x, 2, 1, 0, "it stays by none or 0: a longer ROW is of no account");
         x = clock(LATE + "b003;");
         row(x, 0);
         asks(x, 1, 16, 5, "HOUR 1000 is 4");
@@ -416,7 +431,8 @@ public final class MindEdgesTest extends Asked {
         x = clock("s;n1;b395;w002;w102;w202;w302;w402;w508;");
         due(6, x.watch(0), "he feeds what is kept away, and it stays");
         due(0, x.watch(1), "of several the least");
-        due(0, x.watch(2), "whichever he feeds, it may go there");
+        x.tellsMost(0);
+        due(0, x.watch(2), "whichever he feeds and whatever was looked at, it goes there");
     }
 
     private static void winter(int rounds, int unlike, int... row) {

@@ -1,7 +1,9 @@
 import java.lang.reflect.Method;
 import java.util.ArrayList;
 import java.util.Arrays;
+import java.util.Collections;
 import java.util.List;
+import java.util.Random;
 import java.util.function.Consumer;
 
 /**
@@ -417,6 +419,30 @@ public final class RefusalTest {
         }
     }
 
+    /** What is answered is the same whatever was looked at ahead of it. */
+    private static void askTogether(State s, List<Call> calls) {
+        List<Call> mixed = new ArrayList<>();
+        List<int[]> numbers = new ArrayList<>();
+        for (Call c : calls) {
+            for (int[] a : c.all()) {
+                if (c.rule.due(s, a) == 0) {
+                    mixed.add(c);
+                    numbers.add(a);
+                }
+            }
+        }
+        Collections.shuffle(mixed, new Random(7));
+        Collections.shuffle(numbers, new Random(7));
+        Used x = s.made();
+        for (int i = 0; i < mixed.size(); i++) {
+            x = x.calls < CALLS ? x : s.made();
+            String name = mixed.get(i).name;
+            int alone = s.made().call(name, numbers.get(i));
+            due(x.call(name, numbers.get(i)) == alone, s.name + ": " + name + Arrays.toString(numbers.get(i))
+                + " answers another number behind other looks than " + alone);
+        }
+    }
+
     /** A TOWN with a FAULT takes its letters away, and changes and counts nothing. */
     private static void askFaults(State s) {
         for (String text : List.of("x", "", "b000", "n0;b", "h;s;r;c0;w001;f9;", "s;w511;h;n1;b900;", "c0;n1;w999;")) {
@@ -434,8 +460,10 @@ public final class RefusalTest {
     public static void main(String[] args) {
         for (State s : states()) {
             changing().forEach(c -> askChanging(s, c));
-            looking().forEach(c -> askAll(s, c, c.all()));
-            lookingOn().forEach(c -> askAll(s, c, c.all()));
+            List<Call> looking = new ArrayList<>(looking());
+            looking.addAll(lookingOn());
+            looking.forEach(c -> askAll(s, c, c.all()));
+            askTogether(s, looking);
             askFaults(s);
         }
         System.out.println(asked + " things asked of refusals, " + wrong + " are not as due");
